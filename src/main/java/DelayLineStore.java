@@ -198,9 +198,9 @@ public final class DelayLineStore {
 
     public int leastSafeTemperature() {
         int clockPeriod = computer.climate.clockPeriod();
-        for (int degree = 0; degree <= GREATEST_TEMPERATURE; degree++) {
-            if (isSafe(degree, clockPeriod)) {
-                return degree;
+        for (int temperature = 0; temperature <= GREATEST_TEMPERATURE; temperature++) {
+            if (isSafe(temperature, clockPeriod)) {
+                return temperature;
             }
         }
         return NONE;
@@ -208,9 +208,9 @@ public final class DelayLineStore {
 
     public int greatestSafeTemperature() {
         int clockPeriod = computer.climate.clockPeriod();
-        for (int degree = GREATEST_TEMPERATURE; degree >= 0; degree--) {
-            if (isSafe(degree, clockPeriod)) {
-                return degree;
+        for (int temperature = GREATEST_TEMPERATURE; temperature >= 0; temperature--) {
+            if (isSafe(temperature, clockPeriod)) {
+                return temperature;
             }
         }
         return NONE;

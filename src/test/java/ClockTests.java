@@ -224,4 +224,72 @@ final class ClockTests {
         // e = 640 * -720 = -460800 is less than half a period.
         Check.due("slips(0)", x.slips(0), 1);
     }
+
+    @Test
+    static void promises22And23OnlyTheEndsAreSafe() {
+        DelayLineStore x = new DelayLineStore();
+        x.setFixedPeriod(1018397);
+        Check.due("leastSafeTemperature()", x.leastSafeTemperature(), 1000);
+        Check.due("greatestSafeTemperature()", x.greatestSafeTemperature(), 1000);
+        x.setFixedPeriod(987615);
+        Check.due("leastSafeTemperature()", x.leastSafeTemperature(), 0);
+        Check.due("greatestSafeTemperature()", x.greatestSafeTemperature(), 0);
+        x.setFixedPeriod(987614);
+        Check.due("leastSafeTemperature()", x.leastSafeTemperature(), -1);
+        Check.due("greatestSafeTemperature()", x.greatestSafeTemperature(), -1);
+    }
+
+    @Test
+    static void aMismatchOfAQuarterIsSafe() {
+        DelayLineStore x = new DelayLineStore();
+        for (int tank = 0; tank < 8; tank++) {
+            x.setTemperature(tank, 189);
+        }
+        x.setFixedPeriod(993282);
+        Check.due("mismatch(0)", x.mismatch(0), 993282 / 4);
+        Check.due("greatestSafeTemperature()", x.greatestSafeTemperature(), 189);
+        Check.due("unsafeAfter()", x.unsafeAfter(), 1);
+        for (int tank = 0; tank < 8; tank++) {
+            x.setTemperature(tank, 419);
+            x.writeWord(tank, 0, -1);
+        }
+        x.setFixedPeriod(1000961);
+        Check.due("mismatch(0)", x.mismatch(0), -(1000961 / 4));
+        Check.due("leastSafeTemperature()", x.leastSafeTemperature(), 419);
+        Check.due("unsafeAfter()", x.unsafeAfter(), 1);
+        x.idle(32);
+        Check.due("dropouts()", x.dropouts(), 0);
+    }
+
+    @Test
+    static void aQuarterPastAWholeSlipLosesNothing() {
+        DelayLineStore x = new DelayLineStore();
+        x.setTemperature(0, 96);
+        x.setFixedPeriod(901120);
+        for (int cycle = 0; cycle < 32; cycle++) {
+            x.writeWord(0, cycle, -1);
+        }
+        x.idle(32);
+        Check.due("slips(0)", x.slips(0), 64);
+        Check.due("dropouts()", x.dropouts(), 0);
+        x.setTemperature(0, 97);
+        x.setFixedPeriod(901120 - 100);
+        // Now r is -225280 + 19200 + 64000 + 64 * 100: less than a quarter.
+        x.idle(32);
+        Check.due("dropouts()", x.dropouts(), 0);
+    }
+
+    @Test
+    static void halfAPeriodSlips() {
+        DelayLineStore x = new DelayLineStore();
+        x.setTemperature(0, 331);
+        x.setFixedPeriod(901447);
+        x.idle(32);
+        Check.due("slips(0)", x.slips(0), 69);
+        x = new DelayLineStore();
+        x.setTemperature(0, 331);
+        x.setFixedPeriod(901448);
+        x.idle(32);
+        Check.due("slips(0) of a period that is one longer", x.slips(0), 68);
+    }
 }

@@ -476,4 +476,17 @@ final class RunningTests {
         x.run(1);
         Check.due("accumulator()", x.accumulator(), 3);
     }
+
+    @Test
+    static void promise39FollowsTheInput() {
+        DelayLineStore x = Texts.computerWith("start 0.0; in; jneg 0.4; stop; at 0.4; mul 0.5; stop;");
+        x.offerInput(5);
+        Check.due("predictTime(9) of 5", x.predictTime(9), x.pathTime(0, 0, 9));
+        DelayLineStore y = Texts.computerWith("start 0.0; in; jneg 0.4; stop; at 0.4; mul 0.5; stop;");
+        y.offerInput(-5);
+        int predicted = y.predictTime(9);
+        Check.due("predictTime(9) of -5", predicted, 37 + 22 + 11);
+        y.run(9);
+        Check.due("time()", y.time(), predicted);
+    }
 }

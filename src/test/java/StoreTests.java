@@ -107,6 +107,35 @@ final class StoreTests {
     }
 
     @Test
+    static void promise10AnyTwoTanks() {
+        for (int first = 0; first < 8; first++) {
+            DelayLineStore x = new DelayLineStore();
+            for (int tank = 0; tank < 8; tank++) {
+                x.setTemperature(tank, 400 + 60 * tank);
+            }
+            x.idle(32);
+            for (int tank = 0; tank < 8; tank++) {
+                x.setTemperature(tank, 400 + tank);
+                x.writeWord(tank, 0, 10 + tank);
+                x.writeWord(tank, 31, 20 + tank);
+            }
+            int second = (first + 3) % 8;
+            int firstSlips = x.slips(first);
+            int secondSlips = x.slips(second);
+            Check.due("the slips differ", firstSlips == secondSlips, false);
+            x.swapTanks(first, second);
+            for (int tank = 0; tank < 8; tank++) {
+                int other = tank == first ? second : tank == second ? first : tank;
+                Check.due("temperature", x.temperature(tank), 400 + other);
+                Check.due("readWord(.., 0)", x.readWord(tank, 0), 10 + other);
+                Check.due("readWord(.., 31)", x.readWord(tank, 31), 20 + other);
+            }
+            Check.due("slips of the first", x.slips(first), secondSlips);
+            Check.due("slips of the second", x.slips(second), firstSlips);
+        }
+    }
+
+    @Test
     static void promise10OutOfRange() {
         DelayLineStore x = new DelayLineStore();
         x.writeWord(0, 0, 9);
@@ -208,6 +237,34 @@ final class StoreTests {
     }
 
     @Test
+    static void promise13AWholeSlipLosesNothing() {
+        DelayLineStore x = new DelayLineStore();
+        // e = 52 * 19200 = 998400 is a slip by one, with a rest of -1600; the other tank slips back.
+        x.setTemperature(0, 452);
+        x.setTemperature(1, 348);
+        for (int cycle = 0; cycle < 32; cycle++) {
+            x.writeWord(0, cycle, -1);
+            x.writeWord(1, cycle, -1);
+        }
+        x.idle(32);
+        Check.due("slips(0)", x.slips(0), 1);
+        Check.due("slips(1)", x.slips(1), 1);
+        Check.due("dropouts()", x.dropouts(), 0);
+    }
+
+    @Test
+    static void promise13InALaterWord() {
+        DelayLineStore x = new DelayLineStore();
+        x.idle(4 * 32);
+        x.setTemperature(0, 414);
+        x.writeWord(0, 1, -1);
+        x.writeWord(0, 0, -1);
+        x.idle(32);
+        Check.due("readWord(0, 1): bit 35 is lost", x.readWord(0, 1), -1 - (1 << 15));
+        Check.due("readWord(0, 0)", x.readWord(0, 0), -1);
+    }
+
+    @Test
     static void promise13ThePositionGoesRound() {
         DelayLineStore x = new DelayLineStore();
         x.idle(91 * 32);
@@ -277,6 +334,72 @@ final class StoreTests {
         Check.due("offerInput(1)", x.offerInput(1), 2);
         x.restore(0);
         Check.due("restore(0) again", everything(x), before);
+    }
+
+    @Test
+    static void promise47CountsAndQueuesComeBack() {
+        DelayLineStore x = busyComputer();
+        x.setFixedPeriod(1000000);
+        loseABit(x, 7);
+        Check.due("dropouts() before", x.dropouts() > 0, true);
+        Check.due("hasOverflow() before", x.hasOverflow(), true);
+        x.takeOutput();
+        x.start(0, 2);
+        x.run(2);
+        String before = everything(x);
+        x.save(1);
+        Texts.assemble(x, "at 0.3; out then 0.4; jover 0.2; at 0.2; in then 0.4;");
+        int dropouts = x.dropouts();
+        loseABit(x, 1);
+        x.start(0, 4);
+        Check.due("run(2)", x.run(2), 2);
+        Check.due("hasOverflow() meanwhile", x.hasOverflow(), false);
+        Check.due("dropouts() meanwhile", x.dropouts() > dropouts, true);
+        x.offerInput(21);
+        x.offerInput(22);
+        x.takeOutput();
+        x.restore(1);
+        Check.due("everything", everything(x), before);
+        Check.due("executedAt(0, 4)", x.executedAt(0, 4), 0);
+        Check.due("executedAt(0, 2)", x.executedAt(0, 2), 2);
+        Check.due("outputLength()", x.outputLength(), 1);
+        Check.due("takeOutput()", x.takeOutput(), -48576);
+        Texts.assemble(x, "start 0.0; in; in then 0.0;");
+        Check.due("run(2)", x.run(2), 1);
+        Check.due("accumulator()", x.accumulator(), 12);
+        Check.due("state()", x.state(), 2);
+    }
+
+    private static void loseABit(DelayLineStore x, int tank) {
+        x.setTemperature(tank, 414);
+        for (int cycle = 0; cycle < 32; cycle++) {
+            x.writeWord(tank, cycle, -1);
+        }
+        x.idle(32);
+    }
+
+    @Test
+    static void promise47NumbersThatWereOverwrittenComeBack() {
+        DelayLineStore x = Texts.computerWith("start 0.0; in; out then 0.0;");
+        for (int i = 1; i <= 64; i++) {
+            x.offerInput(i);
+        }
+        x.run(6);
+        x.save(0);
+        x.run(116);
+        for (int i = 0; i < 61; i++) {
+            x.takeOutput();
+        }
+        for (int i = 0; i < 60; i++) {
+            x.offerInput(-i);
+        }
+        x.run(120);
+        x.restore(0);
+        for (int i = 1; i <= 3; i++) {
+            Check.due("takeOutput()", x.takeOutput(), i);
+        }
+        x.run(1);
+        Check.due("accumulator()", x.accumulator(), 4);
     }
 
     @Test
