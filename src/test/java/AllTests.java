@@ -8,7 +8,8 @@ import java.util.List;
 public final class AllTests {
     private static final Class<?>[] TESTS = {
         FaceTests.class, ExampleTests.class, TextTests.class, StoreTests.class, ClockTests.class,
-        RunningTests.class, TimingTests.class, RandomTests.class,
+        RunningTests.class, TimingTests.class, DescriptionEdgeTests.class, InstructionEdgeTests.class,
+        ProgramTextEdgeTests.class, PromiseEdgeTests.class, RefusalTests.class, RandomTests.class,
     };
 
     private static int passed;

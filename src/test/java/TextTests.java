@@ -8,31 +8,6 @@ final class TextTests {
     private TextTests() {
     }
 
-    private static int word(int opcode, int tank, int cycle, int nextTank, int nextCycle) {
-        int word = opcode | tank << 4 | cycle << 7 | nextTank << 12 | nextCycle << 15;
-        return word >= 524288 ? word - 1048576 : word;
-    }
-
-    private static void good(String text, int words) {
-        DelayLineStore x = new DelayLineStore();
-        Texts.put(x, text);
-        try {
-            Check.due("assemble \"" + text + "\"", x.assemble(), words);
-        } catch (IllegalArgumentException e) {
-            Check.fault("assemble \"" + text + "\" refused at " + x.errorPosition());
-        }
-        Check.due("errorCode of \"" + text + "\"", x.errorCode(), 0);
-        Check.due("errorPosition of \"" + text + "\"", x.errorPosition(), -1);
-    }
-
-    private static void bad(String text, int code, int position) {
-        DelayLineStore x = new DelayLineStore();
-        Texts.put(x, text);
-        Check.badArgument("assemble \"" + text + "\"", () -> x.assemble());
-        Check.due("errorCode of \"" + text + "\"", x.errorCode(), code);
-        Check.due("errorPosition of \"" + text + "\"", x.errorPosition(), position);
-    }
-
     // ---- promises 2 and 3
 
     @Test
@@ -103,8 +78,8 @@ final class TextTests {
             DelayLineStore x = Texts.computerWith("at 3.30;" + name + operand + ";" + name + operand + " then 5.17;");
             int tank = bare || shift ? 0 : 7;
             int cycle = bare ? 0 : shift ? 31 : 30;
-            Check.due(name, x.readWord(3, 30), word(opcode, tank, cycle, 3, 31));
-            Check.due(name + " then", x.readWord(3, 31), word(opcode, tank, cycle, 5, 17));
+            Check.due(name, x.readWord(3, 30), Texts.word(opcode, tank, cycle, 3, 31));
+            Check.due(name + " then", x.readWord(3, 31), Texts.word(opcode, tank, cycle, 5, 17));
         }
     }
 
@@ -115,9 +90,9 @@ final class TextTests {
         Check.due("assemble()", Texts.assemble(x, "word 1; at 2.31; in; word -7; at 0.2; stop; at 7.0;"), 4);
         Check.due("0.0", x.readWord(0, 0), 1);
         Check.due("0.1 is kept", x.readWord(0, 1), 99);
-        Check.due("2.31", x.readWord(2, 31), word(13, 0, 0, 2, 0));
+        Check.due("2.31", x.readWord(2, 31), Texts.word(13, 0, 0, 2, 0));
         Check.due("2.0", x.readWord(2, 0), -7);
-        Check.due("0.2", x.readWord(0, 2), word(0, 0, 0, 0, 3));
+        Check.due("0.2", x.readWord(0, 2), Texts.word(0, 0, 0, 0, 3));
         Check.due("time()", x.time(), 0);
         Check.due("assemble() again", Texts.assemble(x, "word 3;"), 1);
         Check.due("0.0", x.readWord(0, 0), 3);
@@ -166,16 +141,16 @@ final class TextTests {
 
     @Test
     static void promise04WordsAndBlanks() {
-        good("", 0);
-        good(" \n ", 0);
-        good("word 524287;", 1);
-        good("word -524288;", 1);
-        good("word - \n 524288 \n ; ", 1);
-        good("word -0;", 1);
-        good("word 000007;", 1);
-        good("load1.3then0.5;in;out;", 3);
-        good("\n at 0 . 5 ;\nshl 0;shr\n31;", 2);
-        good("at 007.000031;stop;", 1);
+        Texts.good("", 0);
+        Texts.good(" \n ", 0);
+        Texts.good("word 524287;", 1);
+        Texts.good("word -524288;", 1);
+        Texts.good("word - \n 524288 \n ; ", 1);
+        Texts.good("word -0;", 1);
+        Texts.good("word 000007;", 1);
+        Texts.good("load1.3then0.5;in;out;", 3);
+        Texts.good("\n at 0 . 5 ;\nshl 0;shr\n31;", 2);
+        Texts.good("at 007.000031;stop;", 1);
         DelayLineStore x = Texts.computerWith("word 524287; word -524288; word - 5; word 000007; word -0;");
         Check.due("0.0", x.readWord(0, 0), 524287);
         Check.due("0.1", x.readWord(0, 1), -524288);
@@ -186,118 +161,118 @@ final class TextTests {
 
     @Test
     static void promise04AFullText() {
-        bad("in;".repeat(33), 3, 96);
+        Texts.bad("in;".repeat(33), 3, 96);
         StringBuilder long600 = new StringBuilder("at 1.0;");
         while (long600.length() < 600) {
             long600.append(long600.length() < 100 ? "in;" : " ");
         }
-        good(long600.toString(), 31);
+        Texts.good(long600.toString(), 31);
     }
 
     // ---- promises 4 to 6: errors
 
     @Test
     static void promise04TokensThatCannotStandThere() {
-        bad("at 0.0", 1, 6);
-        bad("at 0.0  \n", 1, 9);
-        bad("word", 1, 4);
-        bad("word -", 1, 6);
-        bad("word - -1;", 1, 7);
-        bad("word 1.2;", 1, 6);
-        bad("word 5 then 0.1;", 1, 7);
-        bad(";", 1, 0);
-        bad("in;;", 1, 3);
-        bad("load;", 1, 4);
-        bad("load 1;", 1, 6);
-        bad("load 1.;", 1, 7);
-        bad("load -1.2;", 1, 5);
-        bad("load 1.2 3;", 1, 9);
-        bad("load 1.2 then;", 1, 13);
-        bad("load 1.2 then 3.4 then 5.6;", 1, 18);
-        bad("shl;", 1, 3);
-        bad("shl 1.2;", 1, 5);
-        bad("shl -1;", 1, 4);
-        bad("stop 1.2;", 1, 5);
-        bad("in 1;", 1, 3);
-        bad("then 0.1;", 1, 0);
-        bad("start;", 1, 5);
-        bad("start 0.0 then 1.1;", 1, 10);
-        bad("at 0.0 in;", 1, 7);
-        bad("inout;", 1, 0);
-        bad("in out;", 1, 3);
-        bad("loa 1.2;", 1, 0);
-        bad("loads 1.2;", 1, 0);
-        bad("in; 5;", 1, 4);
+        Texts.bad("at 0.0", 1, 6);
+        Texts.bad("at 0.0  \n", 1, 9);
+        Texts.bad("word", 1, 4);
+        Texts.bad("word -", 1, 6);
+        Texts.bad("word - -1;", 1, 7);
+        Texts.bad("word 1.2;", 1, 6);
+        Texts.bad("word 5 then 0.1;", 1, 7);
+        Texts.bad(";", 1, 0);
+        Texts.bad("in;;", 1, 3);
+        Texts.bad("load;", 1, 4);
+        Texts.bad("load 1;", 1, 6);
+        Texts.bad("load 1.;", 1, 7);
+        Texts.bad("load -1.2;", 1, 5);
+        Texts.bad("load 1.2 3;", 1, 9);
+        Texts.bad("load 1.2 then;", 1, 13);
+        Texts.bad("load 1.2 then 3.4 then 5.6;", 1, 18);
+        Texts.bad("shl;", 1, 3);
+        Texts.bad("shl 1.2;", 1, 5);
+        Texts.bad("shl -1;", 1, 4);
+        Texts.bad("stop 1.2;", 1, 5);
+        Texts.bad("in 1;", 1, 3);
+        Texts.bad("then 0.1;", 1, 0);
+        Texts.bad("start;", 1, 5);
+        Texts.bad("start 0.0 then 1.1;", 1, 10);
+        Texts.bad("at 0.0 in;", 1, 7);
+        Texts.bad("inout;", 1, 0);
+        Texts.bad("in out;", 1, 3);
+        Texts.bad("loa 1.2;", 1, 0);
+        Texts.bad("loads 1.2;", 1, 0);
+        Texts.bad("in; 5;", 1, 4);
     }
 
     @Test
     static void promise04BytesThatStartNoToken() {
-        bad("Load 1.2;", 1, 0);
-        bad("loaD 1.2;", 1, 0);
-        bad("at 0.0;\tin;", 1, 7);
-        bad("at 0,0;", 1, 4);
-        bad("word +1;", 1, 5);
-        bad("in;\u00E9", 1, 3);
-        bad("in;`", 1, 3);
-        bad("in;{", 1, 3);
-        bad("word 1:", 1, 6);
-        bad("word 1/", 1, 6);
-        bad("in;\r\n", 1, 3);
-        bad("in;\0", 1, 3);
+        Texts.bad("Load 1.2;", 1, 0);
+        Texts.bad("loaD 1.2;", 1, 0);
+        Texts.bad("at 0.0;\tin;", 1, 7);
+        Texts.bad("at 0,0;", 1, 4);
+        Texts.bad("word +1;", 1, 5);
+        Texts.bad("in;\u00E9", 1, 3);
+        Texts.bad("in;`", 1, 3);
+        Texts.bad("in;{", 1, 3);
+        Texts.bad("word 1:", 1, 6);
+        Texts.bad("word 1/", 1, 6);
+        Texts.bad("in;\r\n", 1, 3);
+        Texts.bad("in;\0", 1, 3);
     }
 
     @Test
     static void promise04RunsOfDigits() {
-        bad("word 1234567;", 1, 5);
-        bad("word 0000001;", 1, 5);
-        bad("word -1234567;", 1, 6);
-        bad("at 4294967296.0;", 1, 3);
-        bad("shl 4294967297;", 1, 4);
-        bad("word 999999;", 2, 5);
-        bad("word 1234567", 1, 5);
+        Texts.bad("word 1234567;", 1, 5);
+        Texts.bad("word 0000001;", 1, 5);
+        Texts.bad("word -1234567;", 1, 6);
+        Texts.bad("at 4294967296.0;", 1, 3);
+        Texts.bad("shl 4294967297;", 1, 4);
+        Texts.bad("word 999999;", 2, 5);
+        Texts.bad("word 1234567", 1, 5);
     }
 
     @Test
     static void promise04NumbersOutOfRange() {
-        bad("at 8.0;", 2, 3);
-        bad("at 0.32;", 2, 5);
-        bad("at 8.32;", 2, 3);
-        bad("start 8.0;", 2, 6);
-        bad("start 7.32;", 2, 8);
-        bad("load 8.1;", 2, 5);
-        bad("load 7.32;", 2, 7);
-        bad("in then 8.0;", 2, 8);
-        bad("in then 0.32;", 2, 10);
-        bad("shl 32;", 2, 4);
-        bad("shr 32;", 2, 4);
-        bad("word 524288;", 2, 5);
-        bad("word -524289;", 2, 6);
-        bad("word - 524289;", 2, 7);
-        bad("at 8 x;", 2, 3);
-        bad("at 8", 2, 3);
-        good("at 7.31; shl 31; shr 0;", 2);
+        Texts.bad("at 8.0;", 2, 3);
+        Texts.bad("at 0.32;", 2, 5);
+        Texts.bad("at 8.32;", 2, 3);
+        Texts.bad("start 8.0;", 2, 6);
+        Texts.bad("start 7.32;", 2, 8);
+        Texts.bad("load 8.1;", 2, 5);
+        Texts.bad("load 7.32;", 2, 7);
+        Texts.bad("in then 8.0;", 2, 8);
+        Texts.bad("in then 0.32;", 2, 10);
+        Texts.bad("shl 32;", 2, 4);
+        Texts.bad("shr 32;", 2, 4);
+        Texts.bad("word 524288;", 2, 5);
+        Texts.bad("word -524289;", 2, 6);
+        Texts.bad("word - 524289;", 2, 7);
+        Texts.bad("at 8 x;", 2, 3);
+        Texts.bad("at 8", 2, 3);
+        Texts.good("at 7.31; shl 31; shr 0;", 2);
     }
 
     @Test
     static void promise04PlacesWrittenBefore() {
-        bad("word 1; at 0.0; word 2;", 3, 16);
-        bad("word 1; at 0.0; in;", 3, 16);
-        bad("in; at 0.0; word 2;", 3, 12);
-        bad("word 1; at 0.0; word x;", 3, 16);
-        bad("word 1; at 0.0; load 9.0;", 3, 16);
-        bad("word 1; at 0.0; wor 2;", 1, 16);
-        bad("at 1.31; in; in; at 1.31; at 1.0; in;", 3, 34);
-        good("word 1; at 0.0; start 0.0; at 0.1; word 2;", 2);
-        good("word 0; at 1.0; word 0;", 2);
-        bad("word 0; at 0.0; word 0;", 3, 16);
+        Texts.bad("word 1; at 0.0; word 2;", 3, 16);
+        Texts.bad("word 1; at 0.0; in;", 3, 16);
+        Texts.bad("in; at 0.0; word 2;", 3, 12);
+        Texts.bad("word 1; at 0.0; word x;", 3, 16);
+        Texts.bad("word 1; at 0.0; load 9.0;", 3, 16);
+        Texts.bad("word 1; at 0.0; wor 2;", 1, 16);
+        Texts.bad("at 1.31; in; in; at 1.31; at 1.0; in;", 3, 34);
+        Texts.good("word 1; at 0.0; start 0.0; at 0.1; word 2;", 2);
+        Texts.good("word 0; at 1.0; word 0;", 2);
+        Texts.bad("word 0; at 0.0; word 0;", 3, 16);
     }
 
     @Test
     static void promise04TheFirstErrorFromTheLeft() {
-        bad("at 8.99; word x;", 2, 3);
-        bad("word x; at 8.0;", 1, 5);
-        bad("word 999999; at 0.0; ?", 2, 5);
-        bad("shl 32 32", 2, 4);
+        Texts.bad("at 8.99; word x;", 2, 3);
+        Texts.bad("word x; at 8.0;", 1, 5);
+        Texts.bad("word 999999; at 0.0; ?", 2, 5);
+        Texts.bad("shl 32 32", 2, 4);
     }
 
     @Test
@@ -332,10 +307,10 @@ final class TextTests {
             boolean shift = name.equals("shl") || name.equals("shr");
             boolean bare = name.equals("stop") || name.equals("in") || name.equals("out");
             DelayLineStore x = new DelayLineStore();
-            x.writeWord(4, 9, word(opcode, 5, 30, 7, 10));
+            x.writeWord(4, 9, Texts.word(opcode, 5, 30, 7, 10));
             String operand = bare ? "" : shift ? " 30" : " 5.30";
             Check.due("format " + opcode, Texts.formatted(x, 4, 9), name + operand + " then 7.10");
-            x.writeWord(4, 9, word(opcode, 0, 0, 0, 9));
+            x.writeWord(4, 9, Texts.word(opcode, 0, 0, 0, 9));
             operand = bare ? "" : shift ? " 0" : " 0.0";
             Check.due("format " + opcode, Texts.formatted(x, 4, 9), name + operand + " then 0.9");
         }

@@ -43,4 +43,31 @@ final class Texts {
         }
         return text.toString();
     }
+
+    static int word(int opcode, int tank, int cycle, int nextTank, int nextCycle) {
+        int word = opcode | tank << 4 | cycle << 7 | nextTank << 12 | nextCycle << 15;
+        return word >= 524288 ? word - 1048576 : word;
+    }
+
+    /** A text that is assembled into a number of words. */
+    static void good(String text, int words) {
+        DelayLineStore x = new DelayLineStore();
+        put(x, text);
+        try {
+            Check.due("assemble \"" + text + "\"", x.assemble(), words);
+        } catch (IllegalArgumentException e) {
+            Check.fault("assemble \"" + text + "\" refused at " + x.errorPosition());
+        }
+        Check.due("errorCode of \"" + text + "\"", x.errorCode(), 0);
+        Check.due("errorPosition of \"" + text + "\"", x.errorPosition(), -1);
+    }
+
+    /** A text that is refused with a code and a position. */
+    static void bad(String text, int code, int position) {
+        DelayLineStore x = new DelayLineStore();
+        put(x, text);
+        Check.badArgument("assemble \"" + text + "\"", () -> x.assemble());
+        Check.due("errorCode of \"" + text + "\"", x.errorCode(), code);
+        Check.due("errorPosition of \"" + text + "\"", x.errorPosition(), position);
+    }
 }
