@@ -10,6 +10,7 @@ public final class AllTests {
         FaceTests.class, ExampleTests.class, TextTests.class, StoreTests.class, ClockTests.class,
         RunningTests.class, TimingTests.class, DescriptionEdgeTests.class, InstructionEdgeTests.class,
         ProgramTextEdgeTests.class, PromiseEdgeTests.class, RefusalTests.class, RandomTests.class,
+        ReadmeTests.class,
     };
 
     private static int passed;
@@ -33,6 +34,10 @@ public final class AllTests {
         }
         System.out.println("project: " + passed + " passed, " + failed + " failed");
         System.exit(failed == 0 ? 0 : 1);
+    }
+
+    static Class<?>[] classes() {
+        return TESTS.clone();
     }
 
     private static void runOne(Class<?> tests, Method method) {
